@@ -1,4 +1,7 @@
-/** Each promise by itself: ordinary calls, the edges that the document names, wrong calls; worked out by hand. */
+/**
+ * Each promise by itself: ordinary calls, the edges that the document names, wrong calls. The answers are worked
+ * out by hand, but where one call is held against another (cycle against round, what is foretold against cycle).
+ */
 public final class PromisesTest {
   private static final int NONE = -1, UNKNOWN = -2, OUTSIDE = -3, NOT = -4, FULL = -5, NULL = -11, EMPTY = -12, ROOM = -13;
   private static final int LEAST = Integer.MIN_VALUE, MOST = Integer.MAX_VALUE;
@@ -567,6 +570,7 @@ public final class PromisesTest {
     due("known by none", x.forgotten(1), 0);
     x = made("net 2 1 1 1;dead 1;dead 0");
     due("known by dead ones", x.forgotten(1), 0);
+    // A search with the class itself found this text; so the 60 is held against 60 cycles below.
     x = made("net 4 5 3 470;dead 0;link 2 3 81;cut 2 0;link 2 0 55");
     due("behind 61", x.forgotten(0), NONE);
     x.cycle(1);
