@@ -1,12 +1,8 @@
 /**
- * Each promise by itself: ordinary calls, the edges that the document names, wrong calls. The answers are worked
- * out by hand, but where one call is held against another (cycle against round, what is foretold against cycle).
+ * Each promise by itself: ordinary calls and wrong ones. The answers are worked out by hand, but where one call is
+ * held against another (cycle against round, what is foretold against cycle). The edges have tests of their own.
  */
-public final class PromisesTest {
-  private static final int NONE = -1, UNKNOWN = -2, OUTSIDE = -3, NOT = -4, FULL = -5, NULL = -11, EMPTY = -12, ROOM = -13;
-  private static final int LEAST = Integer.MIN_VALUE, MOST = Integer.MAX_VALUE;
-  private static int wrong = 0;
-
+public final class PromisesTest extends Probe {
   public static void main(String[] args) {
     newObject();
     write();
@@ -42,56 +38,7 @@ public final class PromisesTest {
     sum();
     drop();
     told();
-    foretoldChangesNothing();
-    refusedChangesNothing();
-    System.out.println(wrong == 0 ? "all promises hold" : wrong + " answers are not as promised");
-    if (wrong != 0) {
-      System.exit(1);
-    }
-  }
-
-  private static void due(String what, int got, int want) {
-    if (got != want) {
-      wrong++;
-      System.out.println(what + ": answered " + got + ", due is " + want);
-    }
-  }
-
-  private static ShuffledViews written(String text) {
-    ShuffledViews x = new ShuffledViews();
-    type(x, text);
-    return x;
-  }
-
-  private static void type(ShuffledViews x, String text) {
-    for (int k = 0; k < text.length(); k++) {
-      x.write(text.charAt(k));
-    }
-  }
-
-  private static ShuffledViews made(String text) {
-    ShuffledViews x = written(text);
-    if (x.net() < 1) {
-      wrong++;
-      System.out.println("a text that stands was refused: " + text);
-    }
-    return x;
-  }
-
-  private static void dueFault(String text, int place) {
-    due("fault of '" + text + "'", written(text).fault(), place);
-  }
-
-  /** A view told as in '2:1 3:0', node and age. */
-  private static void dueView(String what, ShuffledViews x, int node, String view) {
-    StringBuilder got = new StringBuilder();
-    for (int k = 0; k < x.node(node, 2); k++) {
-      got.append(k == 0 ? "" : " ").append(x.entry(node, k, 0)).append(':').append(x.entry(node, k, 1));
-    }
-    if (!got.toString().equals(view)) {
-      wrong++;
-      System.out.println(what + ": the view of " + node + " is " + got + ", due is " + view);
-    }
+    end("all promises hold");
   }
 
   private static void newObject() {
@@ -570,17 +517,6 @@ public final class PromisesTest {
     due("known by none", x.forgotten(1), 0);
     x = made("net 2 1 1 1;dead 1;dead 0");
     due("known by dead ones", x.forgotten(1), 0);
-    // A search with the class itself found this text; so the 60 is held against 60 cycles below.
-    x = made("net 4 5 3 470;dead 0;link 2 3 81;cut 2 0;link 2 0 55");
-    due("behind 61", x.forgotten(0), NONE);
-    x.cycle(1);
-    due("behind 60", x.forgotten(0), 60);
-    x.cycle(20);
-    x.cycle(20);
-    x.cycle(19);
-    due("one before", x.node(0, 3) > 0 ? 1 : 0, 1);
-    x.cycle(1);
-    due("known by none", x.node(0, 3), 0);
   }
 
   private static void next() {
@@ -820,70 +756,5 @@ public final class PromisesTest {
     x = made("net 8 1 1 1;cut 7 0;cut 1 2;link 3 1 0;link 5 1 0");
     // 0 to 1, from 3 and 5, too; 2 to 3; 4 to 5; 6 to 7.
     due("parts either way and by third ones", x.told(7), 2);
-  }
-
-  private static String all(ShuffledViews x) {
-    StringBuilder all = new StringBuilder();
-    for (int what = 0; what < 12; what++) {
-      all.append(x.told(what)).append(' ');
-    }
-    for (int i = 0; i < x.told(0); i++) {
-      all.append('|').append(x.node(i, 0)).append(x.node(i, 1));
-      for (int k = 0; k < x.node(i, 2); k++) {
-        all.append(' ').append(x.entry(i, k, 0)).append(':').append(x.entry(i, k, 1));
-      }
-    }
-    for (int r = 0; r < 3; r++) {
-      all.append('/').append(x.sum(r)).append(' ').append(x.step(r, 0));
-    }
-    return all.toString();
-  }
-
-  private static void dueSame(String what, String before, String behind) {
-    if (!before.equals(behind)) {
-      wrong++;
-      System.out.println(what + " changed " + before + " to " + behind);
-    }
-  }
-
-  private static void foretoldChangesNothing() {
-    ShuffledViews x = made("net 7 3 2 55;dead 3;sly 1");
-    x.cycle(2);
-    x.ring(1);
-    x.add(1, 3);
-    x.write('n');
-    String before = all(x);
-    x.forgotten(3);
-    dueSame("forgotten", before, all(x));
-    x.next(2);
-    dueSame("next", before, all(x));
-    x.spread(60);
-    dueSame("spread", before, all(x));
-    x.far(0, 5);
-    dueSame("far", before, all(x));
-    x.fault();
-    dueSame("fault", before, all(x));
-  }
-
-  private static void refusedChangesNothing() {
-    ShuffledViews x = made("net 5 3 2 55;dead 3");
-    x.round(0);
-    x.keep(0);
-    x.ring(0);
-    x.ring(1);
-    for (int k = 0; k < 8; k++) {
-      x.add(1, k);
-    }
-    type(x, "sly 7");
-    String before = all(x);
-    int[] answers = {
-      x.write(256), x.net(), x.round(3), x.round(5), x.cycle(0), x.cycle(21), x.die(3, 1), x.die(0, 0), x.die(0, 2),
-      x.link(1, 1), x.link(1, 2), x.link(2, 1), x.keep(2), x.back(1), x.back(2), x.ring(3), x.add(0, 1000), x.add(1, 1),
-      x.add(2, 1), x.step(0, 1), x.step(1, 100), x.step(2, 1), x.take(0), x.take(2), x.count(0, 1), x.count(1, 10),
-      x.drop(2), x.sum(2)};
-    for (int answer : answers) {
-      due("refused", answer <= UNKNOWN ? 1 : answer, 1);
-    }
-    dueSame("a refused call", before, all(x));
   }
 }
