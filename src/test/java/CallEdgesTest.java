@@ -463,7 +463,7 @@ public final class CallEdgesTest extends Probe {
     due("the most entries", x.keep(0), 40);
     due("no entries", made("net 2 1 1 1;cut 0 1;cut 1 0").keep(1), 0);
     // Kept by 0 and by 1, each by itself; kept again, the later one counts.
-    x = behind("net 6 3 2 9;dead 5", 1);
+    x = behind("net 5 1 1 9", 1);
     due("keep 0", x.keep(0), x.told(4));
     String first = net(x);
     act(x, 2);
@@ -476,6 +476,7 @@ public final class CallEdgesTest extends Probe {
     dueSame("back 1", net(x), second);
     act(x, 4);
     String third = net(x);
+    due("unlike nets", first.equals(second) || second.equals(third) || third.equals(first) ? 1 : 0, 0);
     x.keep(0);
     x.back(1);
     dueSame("back 1, kept yet", net(x), second);
@@ -602,6 +603,8 @@ public final class CallEdgesTest extends Probe {
     ShuffledViews star = made("net 8 1 1 1;link 1 0 0;link 2 0 0;link 3 0 0;link 4 0 0;link 5 0 0;link 6 0 0");
     due("the greatest of all", star.told(5), 7);
     due("the least of all", star.told(6), 0);
+    due("the greatest is the first's", made("net 3 1 1 1;link 1 0 0").told(5), 2);
+    due("the least is the first's", made("net 3 1 1 1;link 2 1 0").told(6), 0);
     due("the greatest is the last's", made("net 3 1 1 1;link 0 2 0").told(5), 2);
     due("the least is the last's", made("net 3 1 1 1;link 1 0 0").told(6), 0);
   }

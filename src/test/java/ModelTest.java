@@ -22,8 +22,14 @@ public final class ModelTest {
   private static final String[] NAMES = {
     "write", "erase", "fault", "net", "node", "entry", "round", "cycle", "die", "link", "undo", "keep", "back",
     "forgotten", "next", "spread", "far", "ring", "add", "step", "take", "count", "sum", "drop", "told"};
+  private static final int TOLD = NAMES.length - 1;
   private static final int[] ARGUMENTS = {1, 0, 0, 0, 2, 3, 1, 1, 2, 2, 0, 1, 1, 1, 1, 1, 2, 1, 2, 2, 1, 2, 1, 1, 1};
   private static final int[] WEIGHTS = {1, 1, 2, 2, 8, 8, 14, 5, 7, 8, 6, 2, 2, 5, 4, 4, 5, 2, 9, 4, 3, 1, 2, 1, 8};
+
+  private static final int[] EDGES = {
+    Integer.MIN_VALUE, -1000, -999, -2, -1, 0, 1, 2, 3, 4, 5, 6, 7, 8, 9, 10, 11, 12, 19, 20, 21, 59, 60, 61, 98, 99, 100,
+    199, 200, 255, 256, 998, 999, 1000, Integer.MAX_VALUE};
+  private static final int[] NO_ARGUMENT = {0};
 
   private static int wrong = 0;
   private static final Map<String, Integer> seen = new LinkedHashMap<>();
@@ -33,6 +39,11 @@ public final class ModelTest {
       run(o, new Random(7919L * o + 1));
     }
     mustHaveSeen();
+    for (String text : new String[] {"sly 1", "net 8 5 3 7;dead 2;sly 3;cut 0 1;cut 5 6", "net 2 1 1 1;dead 0;dead 1"}) {
+      for (int call = 0; call < NAMES.length; call++) {
+        edges(text, call);
+      }
+    }
     System.out.println(wrong == 0 ? "all answers are as the model's" : wrong + " answers are not as the model's");
     if (wrong != 0) {
       System.exit(1);
@@ -57,6 +68,51 @@ public final class ModelTest {
         compare(object, x, m, call, argument(chance, call, 0), argument(chance, call, 1), argument(chance, call, 2));
         calls++;
       }
+    }
+  }
+
+  /** A call with every edge that any call has, in each of its places, each time on new objects. */
+  private static void edges(String text, int call) {
+    for (int a : ARGUMENTS[call] > 0 ? EDGES : NO_ARGUMENT) {
+      for (int b : ARGUMENTS[call] > 1 ? EDGES : NO_ARGUMENT) {
+        ShuffledViews x = new ShuffledViews();
+        Model m = new Model();
+        if (wrong >= 10) {
+          return;
+        }
+        prepare(x, m, text);
+        for (int c : ARGUMENTS[call] > 2 ? EDGES : NO_ARGUMENT) {
+          compare(OBJECTS, x, m, call, a, b, c);
+        }
+        for (int what = 0; what < 12; what++) {
+          compare(OBJECTS, x, m, TOLD, what, 0, 0);
+        }
+      }
+    }
+  }
+
+  /** A net, something to undo, one net kept, a full ring, an empty one, a text. */
+  private static void prepare(ShuffledViews x, Model m, String text) {
+    for (int k = 0; k < text.length(); k++) {
+      x.write(text.charAt(k));
+      m.write(text.charAt(k));
+    }
+    due(x.net(), m.net());
+    due(x.cycle(2), m.cycle(2));
+    due(x.keep(1), m.keep(1));
+    due(x.round(0), m.round(0));
+    due(x.ring(0), m.ring(0));
+    due(x.ring(1), m.ring(1));
+    for (int v = 1; v <= 8; v++) {
+      due(x.add(0, v), m.add(0, v));
+    }
+    due(x.write('s'), m.write('s'));
+  }
+
+  private static void due(int got, int want) {
+    if (got != want) {
+      wrong++;
+      System.out.println("ahead of an edge: answered " + got + ", due is " + want);
     }
   }
 

@@ -210,6 +210,9 @@ public final class TextEdgesTest extends Probe {
       dueFault(Character.toUpperCase(text.charAt(0)) + text.substring(1), 0);
       dueFault(text + " 0", text.length() + 1);
       dueFault(text + ".", text.length());
+      for (int k = 0; text.charAt(k) != ' '; k++) {
+        dueFault(text.substring(0, k) + 'x' + text.substring(k + 1), 0);
+      }
     }
     dueFault("netdead 0", 0);
     dueFault("undo 1", 0);
